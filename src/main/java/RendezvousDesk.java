@@ -109,7 +109,7 @@ public final class RendezvousDesk {
         ticksSoFar++;
         int closed = 0;
         for (int p = 0; p < PROCESSES; p++) {
-            if (peers[p].place != IDLE && peers[p].isClosedByTick()) {
+            if (peers[p].place != IDLE && peers[p].tickCloses()) {
                 closed++;
             }
         }
@@ -547,7 +547,7 @@ public final class RendezvousDesk {
             place = IDLE;
         }
 
-        private boolean isClosedByTick() {
+        private boolean tickCloses() {
             ticksGoneBy++;
             if (ticks == 0 || ticksGoneBy < ticks || state.mark != OPEN) {
                 return false;

@@ -7,6 +7,7 @@ public final class StepTest {
         lookingPastOwnAndUnlikeEntries(check);
         lowerClaimsItselfFirst(check);
         higherClaimsTheOtherFirst(check);
+        ownVersionIsItsOwn(check);
         pairedWhileAsleep(check);
         firstHeldByAnother(check);
         firstOfAnOlderOffer(check);
@@ -107,6 +108,24 @@ public final class StepTest {
         check.process(desk, 2, Desks.PAIRED, 1, Desks.NONE, Desks.LOOKING, 5, 0, 0);
         check.steps(desk, 2, 2);
         check.place(desk, 2, Desks.END);
+    }
+
+    /** Each claims with its own version, which is not the other's. */
+    private static void ownVersionIsItsOwn(Check check) {
+        int[] tellers = {1, 2};
+        for (int teller : tellers) {
+            RendezvousDesk desk = Desks.live(1, 2);
+            desk.offer(1);
+            desk.cancel(1);
+            Desks.receive(desk, 3 - teller, 0);
+            desk.step(3 - teller);
+            Desks.send(desk, teller, 0, -8);
+            check.steps(desk, teller, 0, 0, 0, 0, 0, 2);
+            check.process(desk, teller, Desks.PAIRED, teller == 1 ? 2 : 1, Desks.NONE, Desks.END,
+                    3 - teller, 0, 0);
+            check.process(desk, 3 - teller, Desks.PAIRED, teller == 1 ? 1 : 2, Desks.NONE, Desks.LOOKING,
+                    teller, 0, -8);
+        }
     }
 
     private static void pairedWhileAsleep(Check check) {
