@@ -1,11 +1,15 @@
 import java.util.Arrays;
 import java.util.Random;
 
-/** Random runs of calls: the program answers as the plain second writing of the document does. */
+/**
+ * Random runs of 512 calls: the program answers as the plain second writing of the document does. A look
+ * at the state is a call too, so a run looks now and then, and at all that it can at its end.
+ */
 public final class AgainstPlainDeskTest {
-    private static final int RUNS = 1500;
+    private static final int RUNS = 4000;
     private static final int CALLS = 512;
-    private static final int PAIRS_A_RUN = 4;
+    private static final int LOOKS_AT_LISTS = 40;
+    private static final int PAIRS_A_RUN = 2;
 
     private final Random random;
     private final RendezvousDesk desk = new RendezvousDesk();
@@ -13,14 +17,17 @@ public final class AgainstPlainDeskTest {
     private final int processes;
     private final int channels;
     private final boolean wild;
+    private final int callsALook;
     private final boolean[] spawned = new boolean[16];
     private final StringBuilder story = new StringBuilder();
+    private int made = 0;
 
     private AgainstPlainDeskTest(int seed) {
         random = new Random(seed);
         processes = 2 + random.nextInt(15);
         channels = 1 + random.nextInt(random.nextBoolean() ? 2 : 8);
         wild = random.nextInt(4) == 0;
+        callsALook = 1 + random.nextInt(10);
     }
 
     public static void main(String[] args) {
@@ -47,14 +54,15 @@ public final class AgainstPlainDeskTest {
         for (int p = 0; p < atOnce; p++) {
             sameSpawn(p);
         }
-        for (int i = atOnce; i < CALLS; i++) {
+        int lastLooks = 7 + 7 * processes + LOOKS_AT_LISTS;
+        while (made + 2 + lastLooks <= CALLS) {
             int p = among(processes, 16);
             boolean same = random.nextInt(3) == 0 ? anyCall(p) : callThatFits(p);
-            if (!same || !sameState()) {
+            if (!same || random.nextInt(callsALook) == 0 && !sameLook()) {
                 return false;
             }
         }
-        return true;
+        return sameState();
     }
 
     private boolean callThatFits(int p) {
@@ -153,41 +161,54 @@ public final class AgainstPlainDeskTest {
         return random.nextBoolean() ? random.nextInt(all + 4) - 2 : random.nextInt();
     }
 
-    private boolean sameState() {
-        for (int what = -1; what <= 5; what++) {
-            int of = what;
-            if (!quietlySame(() -> desk.count(of), () -> plain.count(of), "count", of)) {
-                return false;
-            }
+    private boolean sameLook() {
+        int p = random.nextInt(processes);
+        switch (random.nextInt(4)) {
+            case 0:
+                return sameCount(random.nextInt(7) - 1);
+            case 1:
+                return sameEntry();
+            case 2:
+                return samePair();
+            default:
+                return sameProcess(p, random.nextInt(9) - 1);
         }
-        for (int p = 0; p < processes; p++) {
-            if (spawned[p] && !sameProcess(p)) {
-                return false;
-            }
-        }
-        return sameEntry() && sameLastPair();
     }
 
-    private boolean sameProcess(int p) {
-        for (int what = 0; what <= 6; what++) {
-            int of = what;
-            if (!quietlySame(() -> desk.process(p, of), () -> plain.process(p, of), "process", p, of)) {
-                return false;
+    private boolean sameState() {
+        boolean same = true;
+        for (int what = -1; what <= 5; what++) {
+            same = same && sameCount(what);
+        }
+        for (int p = 0; p < processes; p++) {
+            for (int what = 0; what <= 6; what++) {
+                same = same && sameProcess(p, what);
             }
         }
-        return true;
+        for (int i = 0; i < LOOKS_AT_LISTS; i++) {
+            same = same && (i % 4 == 0 ? samePair() : sameEntry());
+        }
+        return same;
+    }
+
+    private boolean sameCount(int what) {
+        return quietlySame(() -> desk.count(what), () -> plain.count(what), "count", what);
+    }
+
+    private boolean sameProcess(int p, int what) {
+        return quietlySame(() -> desk.process(p, what), () -> plain.process(p, what), "process", p, what);
     }
 
     private boolean sameEntry() {
         int channel = among(channels, 8);
-        int i = random.nextInt(plain.count(3) + 2) - 1;
-        int what = random.nextInt(5) - 1;
+        int i = random.nextInt(Math.min(plain.count(3), 12) + 2) - 1;
+        int what = random.nextInt(8) == 0 ? random.nextInt(5) - 1 : random.nextInt(3);
         return quietlySame(() -> desk.waiting(channel, i, what), () -> plain.waiting(channel, i, what),
                 "waiting", channel, i, what);
     }
 
-    private boolean sameLastPair() {
-        int k = plain.count(2) - 1 + random.nextInt(2);
+    private boolean samePair() {
+        int k = random.nextInt(plain.count(2) + 2) - 1;
         int what = random.nextInt(7) - 1;
         return quietlySame(() -> desk.pair(k, what), () -> plain.pair(k, what), "pair", k, what);
     }
@@ -203,6 +224,7 @@ public final class AgainstPlainDeskTest {
     }
 
     private boolean isDue(long got, long want, String name, int... arguments) {
+        made++;
         if (got != want) {
             story.append("\n  ").append(name).append(Arrays.toString(arguments));
             story.append(" answered ").append(got).append(", due is ").append(want);

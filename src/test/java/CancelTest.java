@@ -2,103 +2,113 @@
 public final class CancelTest {
     public static void main(String[] args) {
         Check check = new Check();
-        wrongInputs(check);
-        openOnes(check);
-        holdingOrHeldOrEnded(check);
-        entriesMoveUp(check);
+        idleOnesAreRefused(check);
+        openOnesThatHoldNothing(check);
+        openOnesThatHoldAnother(check);
+        openAtBack(check);
+        heldOnes(check);
+        pairedOnes(check);
+        closedOnes(check);
         check.exitIfWrong();
     }
 
-    private static void wrongInputs(Check check) {
+    private static RendezvousDesk idleWithGuardAndTicks() {
         RendezvousDesk desk = Desks.live(4);
-        check.throwing("no process", Check.OUT_OF_BOUNDS, () -> desk.cancel(16) ? 1 : 0);
-        check.throwing("no process", Check.OUT_OF_BOUNDS, () -> desk.cancel(-1) ? 1 : 0);
-        check.throwing("not live", Check.ILLEGAL_STATE, () -> desk.cancel(3) ? 1 : 0);
-        check.throwing("idle", Check.UNSUPPORTED, () -> desk.cancel(4) ? 1 : 0);
         desk.guard(4, 0, 0, 0, true);
-        check.throwing("idle, with a guard", Check.UNSUPPORTED, () -> desk.cancel(4) ? 1 : 0);
-        check.due("the guard stays", 1, desk.guard(4, 0, 0, 0, true));
+        desk.timeout(4, 7);
+        return desk;
     }
 
-    private static void openOnes(Check check) {
-        int[] places = {Desks.PUBLISHING, Desks.LOOKING, Desks.FIRST};
+    /** "UnsupportedOperationException, when it is idle." */
+    private static void idleOnesAreRefused(Check check) {
+        check.refused("cancel(4), idle", Check.UNSUPPORTED, () -> Desks.live(4),
+                desk -> desk.cancel(4) ? 1 : 0);
+        check.refused("cancel(4), idle with a guard", Check.UNSUPPORTED,
+                CancelTest::idleWithGuardAndTicks, desk -> desk.cancel(4) ? 1 : 0);
+        check.refused("cancel(5), idle among others", Check.UNSUPPORTED, () -> Desks.fiveAt(Desks.IDLE),
+                desk -> desk.cancel(5) ? 1 : 0);
+        RendezvousDesk desk = Desks.fiveAt(Desks.LOOKING);
+        check.due("cancel(5)", true, desk.cancel(5));
+        check.throwing("cancel(5) again", Check.UNSUPPORTED, () -> desk.cancel(5) ? 1 : 0);
+    }
+
+    /** "it is idle then, without guards, ticks 0. Whether it was." */
+    private static void openOnesThatHoldNothing(Check check) {
+        int[] places = {Desks.PUBLISHING, Desks.LOOKING, Desks.FIRST, Desks.ASLEEP};
         for (int place : places) {
-            RendezvousDesk desk = Desks.tellerAt(place);
-            check.due("cancel(1) at " + place, true, desk.cancel(1));
-            check.process(desk, 1, Desks.CLOSED, 1, Desks.NONE, Desks.IDLE, Desks.NONE, Desks.NONE, 0);
-            check.due("entries", 1, desk.count(3));
-            check.due("offers", 1, desk.count(1));
-            check.due("without guards", 0, desk.guard(1, 0, 0, 0, true));
-            check.due("ticks 0", 0, desk.timeout(1, 0));
+            RendezvousDesk desk = Desks.fiveAt(place);
+            int offers = desk.count(1);
+            check.due("cancel(5) at " + place, true, desk.cancel(5));
+            check.process(desk, 5, Desks.CLOSED, 1, Desks.NONE, Desks.IDLE, Desks.NONE, Desks.NONE, 0);
+            check.due("entries", place == Desks.ASLEEP ? 0 : 1, desk.count(3));
+            check.due("offers", offers - 1, desk.count(1));
+            check.steps(desk, 5, 4);
+            check.due("without guards", 0, desk.guard(5, 0, 0, 0, true));
+            check.due("ticks 0", 0, desk.timeout(5, 0));
+            check.due("the next version", 2, desk.offer(5));
         }
-        RendezvousDesk desk = Desks.live(0);
-        desk.offer(0);
-        check.due("cancel(0) asleep", true, desk.cancel(0));
-        check.steps(desk, 0, 4);
     }
 
-    private static void holdingOrHeldOrEnded(Check check) {
-        int[] places = {Desks.SECOND, Desks.TELLING, Desks.CLOSING, Desks.END};
-        for (int place : places) {
-            RendezvousDesk desk = Desks.tellerAt(place);
-            check.due("cancel(1) at " + place, false, desk.cancel(1));
-            check.place(desk, 1, place);
-            check.due("entries", 2, desk.count(3));
-            check.due("cancel(2) with 1 at " + place, place == Desks.SECOND, desk.cancel(2));
+    /** "when it is OPEN and its process holds nothing": OPEN alone is not enough. */
+    private static void openOnesThatHoldAnother(Check check) {
+        check.due("5 is open", Desks.OPEN, Desks.fiveAt(Desks.SECOND).process(5, 0));
+        check.cancelRefused("cancel(5) at SECOND", 5, () -> Desks.fiveAt(Desks.SECOND));
+        int[][] both = {{0, 1}, {0, 15}, {14, 15}};
+        for (int[] of : both) {
+            check.cancelRefused("cancel(" + of[1] + "), holding " + of[0], of[1],
+                    () -> holding(of[0], of[1]));
         }
-        RendezvousDesk desk = Desks.higherAtSecond(0);
-        check.due("cancel(5), open, but holding 2", false, desk.cancel(5));
-        check.due("cancel(2), held", false, desk.cancel(2));
-        check.due("2 is still held", 5, desk.process(2, 2));
-        RendezvousDesk timed = Desks.live(0);
-        timed.timeout(0, 1);
-        timed.offer(0);
-        timed.tick();
-        check.due("cancel(0), closed by its time", false, timed.cancel(0));
-        check.due("finish(0)", Desks.NONE, timed.finish(0));
-        openAtBack(check);
     }
 
-    /** 7 gives 5 back because its own time is over, so 5 is open at BACK and holds 2. */
+    /** The higher of both is OPEN at SECOND and holds the lower. */
+    private static RendezvousDesk holding(int lower, int higher) {
+        RendezvousDesk desk = Desks.live(lower, higher);
+        Desks.send(desk, lower, 3, 20);
+        desk.step(lower);
+        Desks.receive(desk, higher, 3);
+        Desks.stepTo(desk, higher, Desks.SECOND);
+        return desk;
+    }
+
     private static void openAtBack(Check check) {
-        RendezvousDesk desk = Desks.live(2, 5, 7);
-        Desks.send(desk, 2, 3, 20);
-        desk.step(2);
-        desk.guard(5, 0, 3, 0, true);
-        desk.guard(5, 1, 4, 50, true);
-        desk.offer(5);
-        Desks.steps(desk, 5, 4);
-        desk.timeout(7, 1);
-        Desks.receive(desk, 7, 4);
-        Desks.steps(desk, 7, 3);
-        desk.step(5);
-        check.process(desk, 5, Desks.HELD, 1, 7, Desks.BACK);
-        desk.tick();
-        Desks.steps(desk, 7, 2);
-        check.process(desk, 5, Desks.OPEN, 1, Desks.NONE, Desks.BACK);
-        check.due("cancel(5) at BACK", false, desk.cancel(5));
+        check.process(Desks.fiveOpenAtBack(), 5, Desks.OPEN, 1, Desks.NONE, Desks.BACK);
+        check.cancelRefused("cancel(5) at BACK", 5, Desks::fiveOpenAtBack);
+        RendezvousDesk desk = Desks.fiveOpenAtBack();
         desk.step(5);
         check.due("cancel(5) behind BACK", true, desk.cancel(5));
     }
 
-    private static void entriesMoveUp(Check check) {
-        RendezvousDesk desk = Desks.live(1, 2, 3);
-        for (int p = 1; p <= 3; p++) {
-            desk.guard(p, 0, 0, 0, true);
-            desk.guard(p, 0, 5, 0, true);
-            desk.guard(p, 0, 0, 0, true);
-            desk.offer(p);
-            Desks.steps(desk, p, 3);
+    private static void heldOnes(Check check) {
+        int[] byItself = {Desks.SECOND, Desks.TELLING, Desks.CLOSING};
+        for (int place : byItself) {
+            check.due("1 is held", Desks.HELD, Desks.tellerAt(place).process(1, 0));
+            check.cancelRefused("cancel(1) at " + place, 1, () -> Desks.tellerAt(place));
         }
-        check.due("cancel(2)", true, desk.cancel(2));
-        check.due("count(3)", 6, desk.count(3));
-        int[][] first = {{1, 0}, {1, 2}, {3, 0}, {3, 2}};
-        for (int i = 0; i < first.length; i++) {
-            check.due("waiting(0, " + i + ", 0)", first[i][0], desk.waiting(0, i, 0));
-            check.due("waiting(0, " + i + ", 2)", first[i][1], desk.waiting(0, i, 2));
+        check.cancelRefused("cancel(2), held by 5", 2, () -> Desks.fiveAt(Desks.SECOND));
+        check.cancelRefused("cancel(5), held by 7", 5, () -> Desks.fiveAt(Desks.BACK));
+        check.cancelRefused("cancel(2), held by 1", 2, () -> Desks.tellerAt(Desks.TELLING));
+        check.due("cancel(2), not yet held", true, Desks.tellerAt(Desks.SECOND).cancel(2));
+    }
+
+    private static void pairedOnes(Check check) {
+        int[] places = {Desks.PUBLISHING, Desks.LOOKING, Desks.FIRST, Desks.ASLEEP};
+        for (int place : places) {
+            check.cancelRefused("cancel(2), paired at " + place, 2, () -> Desks.twoPairedAt(place));
         }
-        check.due("waiting(5, 0, 0)", 1, desk.waiting(5, 0, 0));
-        check.due("waiting(5, 1, 0)", 3, desk.waiting(5, 1, 0));
-        check.throwing("waiting(5, 2, 0)", Check.OUT_OF_BOUNDS, () -> desk.waiting(5, 2, 0));
+        check.cancelRefused("cancel(5), paired at SECOND", 5, () -> Desks.fivePairedAt(Desks.SECOND));
+        check.cancelRefused("cancel(5), paired at BACK", 5, () -> Desks.fivePairedAt(Desks.BACK));
+        check.cancelRefused("cancel(1) at the end", 1, () -> Desks.tellerAt(Desks.END));
+    }
+
+    private static void closedOnes(Check check) {
+        int[] places = {Desks.PUBLISHING, Desks.LOOKING, Desks.FIRST, Desks.SECOND, Desks.ASLEEP};
+        for (int place : places) {
+            check.cancelRefused("cancel(5), closed at " + place, 5, () -> Desks.fiveClosedAt(place));
+        }
+        check.cancelRefused("cancel(5), closed at the end", 5, () -> {
+            RendezvousDesk desk = Desks.fiveClosedAt(Desks.LOOKING);
+            desk.step(5);
+            return desk;
+        });
     }
 }

@@ -1,3 +1,7 @@
+import java.util.List;
+import java.util.function.Supplier;
+import java.util.function.ToLongFunction;
+
 /** Counts and prints the calls of one test whose answer is not the one that is due. */
 final class Check {
     /** A call of the desk; a boolean counts 1 or 0, a void call 0. */
@@ -36,6 +40,40 @@ final class Check {
         }
     }
 
+    /** The call throws, and a desk of the same history without the call shows the same ever after. */
+    void refused(String call, Class<? extends RuntimeException> want, Supplier<RendezvousDesk> history,
+            ToLongFunction<RendezvousDesk> made) {
+        RendezvousDesk desk = history.get();
+        throwing(call, want, () -> made.applyAsLong(desk));
+        same("behind the refused " + call, Shown.of(history.get()), Shown.of(desk));
+        RendezvousDesk again = history.get();
+        throwing(call, want, () -> made.applyAsLong(again));
+        same("behind the refused " + call, Shown.ticksFirst(history.get()), Shown.ticksFirst(again));
+    }
+
+    /** The cancel answers false, and nothing that calls show ever after is changed by it. */
+    void cancelRefused(String call, int p, Supplier<RendezvousDesk> history) {
+        RendezvousDesk desk = history.get();
+        due(call, false, desk.cancel(p));
+        same("behind the refused " + call, Shown.of(history.get()), Shown.of(desk));
+        RendezvousDesk again = history.get();
+        due(call, false, again.cancel(p));
+        same("behind the refused " + call, Shown.ticksFirst(history.get()), Shown.ticksFirst(again));
+    }
+
+    /** Tells the first row in which the two differ. */
+    void same(String when, List<String> want, List<String> got) {
+        for (int i = 0; i < want.size() || i < got.size(); i++) {
+            String due = i < want.size() ? want.get(i) : "nothing";
+            String row = i < got.size() ? got.get(i) : "nothing";
+            if (!due.equals(row)) {
+                wrong++;
+                System.out.println(when + ": " + row + ", due is: " + due);
+                return;
+            }
+        }
+    }
+
     /** What process() tells, in the order of its numbers. */
     void process(RendezvousDesk desk, int p, int... want) {
         for (int what = 0; what < want.length; what++) {
@@ -52,6 +90,18 @@ final class Check {
 
     void place(RendezvousDesk desk, int p, int want) {
         due("process(" + p + ", 3)", want, desk.process(p, 3));
+    }
+
+    /** The whole list of a channel: of each entry the process, the version and the guard. */
+    void list(RendezvousDesk desk, int channel, int[]... want) {
+        for (int i = 0; i < want.length; i++) {
+            for (int what = 0; what < 3; what++) {
+                due("waiting(" + channel + ", " + i + ", " + what + ")", want[i][what],
+                        desk.waiting(channel, i, what));
+            }
+        }
+        throwing("waiting(" + channel + ", " + want.length + ", 0)", OUT_OF_BOUNDS,
+                () -> desk.waiting(channel, want.length, 0));
     }
 
     void exitIfWrong() {

@@ -3,41 +3,35 @@ public final class SpawnTest {
     public static void main(String[] args) {
         Check check = new Check();
         everyProcessOnce(check);
-        wrongInputs(check);
+        whileOthersHaveOffers(check);
         check.exitIfWrong();
     }
 
+    /** From none live to all sixteen. */
     private static void everyProcessOnce(Check check) {
         RendezvousDesk desk = new RendezvousDesk();
+        check.due("count(0)", 0, desk.count(0));
         for (int p = 15; p >= 0; p--) {
             desk.spawn(p);
             check.due("count(0)", 16 - p, desk.count(0));
             check.process(desk, p, Desks.CLOSED, 0, Desks.NONE, Desks.IDLE, Desks.NONE, Desks.NONE, 0);
             check.steps(desk, p, 4);
+            check.due("the ticks", 0, desk.timeout(p, 0));
             check.due("the first guard's number", 0, desk.guard(p, 0, 0, 0, true));
         }
         check.due("count(1)", 0, desk.count(1));
+        check.due("count(3)", 0, desk.count(3));
     }
 
-    private static void wrongInputs(Check check) {
-        RendezvousDesk desk = Desks.live(0);
-        int[] none = {-1, 16, Integer.MIN_VALUE, Integer.MAX_VALUE};
-        for (int p : none) {
-            check.throwing("spawn(" + p + ")", Check.OUT_OF_BOUNDS, () -> {
-                desk.spawn(p);
-                return 0;
-            });
-        }
-        check.throwing("spawn(0) again", Check.ILLEGAL_STATE, () -> {
-            desk.spawn(0);
-            return 0;
-        });
-        Desks.receive(desk, 0, 1);
-        check.throwing("spawn(0) with an offer", Check.ILLEGAL_STATE, () -> {
-            desk.spawn(0);
-            return 0;
-        });
-        check.place(desk, 0, Desks.PUBLISHING);
-        check.due("count(0)", 1, desk.count(0));
+    /** A spawn changes nothing of the others; they stay as they are, and CLEAN. */
+    private static void whileOthersHaveOffers(Check check) {
+        RendezvousDesk desk = Desks.live(2);
+        Desks.receive(desk, 2, 0);
+        check.steps(desk, 2, 0, 0);
+        desk.spawn(1);
+        check.process(desk, 2, Desks.OPEN, 1, Desks.NONE, Desks.LOOKING);
+        check.due("count(0)", 2, desk.count(0));
+        check.due("count(1)", 1, desk.count(1));
+        check.steps(desk, 2, 1);
     }
 }
